@@ -228,10 +228,10 @@ public final class TwoWaySeats {
     if (proposesSeatsWithoutVotes()) {
       return 1;
     }
-    if (!proposesTheSeatsOfDistricts()) {
+    if (!proposesInAll(sizes, MOST, 1)) {
       return 2;
     }
-    if (!proposesTheSharesOfParties()) {
+    if (!proposesInAll(shares, 1, MOST)) {
       return 3;
     }
     return ring.isFound(counted, proposal, Ring.NEITHER) ? 4 : 0;
@@ -386,26 +386,14 @@ public final class TwoWaySeats {
     return false;
   }
 
-  private boolean proposesTheSeatsOfDistricts() {
-    for (int d = 0; d < MOST; d++) {
+  /** Whether the proposal's lists at each * k, each * k + next, .. have due[k] together. */
+  private boolean proposesInAll(int[] due, int each, int next) {
+    for (int k = 0; k < MOST; k++) {
       int sum = 0;
-      for (int p = 0; p < MOST; p++) {
-        sum += proposal[d * MOST + p];
+      for (int j = 0; j < MOST; j++) {
+        sum += proposal[each * k + next * j];
       }
-      if (sum != sizes[d]) {
-        return false;
-      }
-    }
-    return true;
-  }
-
-  private boolean proposesTheSharesOfParties() {
-    for (int p = 0; p < MOST; p++) {
-      int sum = 0;
-      for (int d = 0; d < MOST; d++) {
-        sum += proposal[d * MOST + p];
-      }
-      if (sum != shares[p]) {
+      if (sum != due[k]) {
         return false;
       }
     }
