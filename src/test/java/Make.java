@@ -73,4 +73,28 @@ final class Make {
     }
     return text.toString();
   }
+
+  /** What was solved: every answer, or the exception, of each call that needs it. */
+  static String solved(TwoWaySeats made) {
+    StringBuilder text = new StringBuilder();
+    text.append(Check.outcome(() -> table(made, false))).append(", ");
+    text.append(Check.outcome(() -> table(made, true))).append(", ");
+    text.append(Check.outcome(() -> made.unique())).append(", ");
+    for (int k = 0; k < made.count(false) + made.count(true); k++) {
+      boolean party = k >= made.count(false);
+      int place = party ? k - made.count(false) : k;
+      text.append(Check.outcome(() -> number(made, party, place))).append(" ");
+    }
+    return text.append(", ").append(Check.outcome(() -> block(made))).toString();
+  }
+
+  /** Everything that can be asked: what was solved, and what is always answered. */
+  static String everything(TwoWaySeats made) {
+    StringBuilder text = new StringBuilder();
+    text.append(made.count(false)).append(" by ").append(made.count(true)).append(", ");
+    text.append(Check.outcome(() -> shares(made))).append(", ");
+    text.append(Check.outcome(() -> ties(made))).append(", ");
+    text.append(Check.outcome(() -> made.judge())).append(", ");
+    return text.append(solved(made)).toString();
+  }
 }
