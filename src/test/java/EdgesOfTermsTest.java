@@ -19,6 +19,7 @@ public final class EdgesOfTermsTest {
     weightDivided();
     sharesOneByOne();
     severalByTheOrder();
+    onePositionOneParty();
     nothingToShare();
     allOutIsNothingToShare();
     tiedAtTheBoundary();
@@ -354,6 +355,33 @@ public final class EdgesOfTermsTest {
     Check.due("18/3 is 6", "1 0 1", Make.shares(x));
   }
 
+  /** The order where one is the first, or the first two are these. */
+  private static String before(int first, int second) {
+    String rest = "0123".replace("" + first, "").replace("" + second, "");
+    return first + "" + second + rest;
+  }
+
+  /** "A party has a position from now on; the party that had it has none any more, nor has .." */
+  private static void onePositionOneParty() {
+    for (int k = 0; k < 16; k++) {
+      int one = k / 4;
+      int other = k % 4;
+      if (one == other) {
+        continue;
+      }
+      String rest = "0123".replace("" + other, "");
+      for (int position = 0; position < 4; position++) {
+        int next = (position + 1) % 4;
+        Check.due("taken over", other + rest, order(position, one, position, other));
+        Check.due("moved on", other + rest, order(position, other, next, other));
+        String due = next < position ? before(one, other) : before(other, one);
+        Check.due("moved on, and taken", due, order(position, one, next, one, position, other));
+        Check.due("both in turn", due, order(position, other, next, one));
+        Check.due("told twice", due, order(position, other, next, one, position, other));
+      }
+    }
+  }
+
   private static void nothing(String where, TwoWaySeats x) {
     Check.refused(where + ": share", Check.STATE, () -> x.share(0));
     Check.refused(where + ": tied", Check.STATE, () -> x.tied(0));
@@ -450,6 +478,10 @@ public final class EdgesOfTermsTest {
     Check.due("none with no weight", "1 0 0 0 ----", Make.shares(z) + " " + Make.ties(z));
     TwoWaySeats alone = district(20, 500);
     Check.due("no other one", "20 -", Make.shares(alone) + " " + Make.ties(alone));
+    TwoWaySeats least = district(1, 1, 1);
+    Check.due("of one vote each", "1 0 tt", Make.shares(least) + " " + Make.ties(least));
+    least.lot(0, 1);
+    Check.due("and by lot", "0 1 tt", Make.shares(least) + " " + Make.ties(least));
     TwoWaySeats two = district(2, 90, 30, 10);
     Check.due("90/3 and 30", "2 0 0 tt-", Make.shares(two) + " " + Make.ties(two));
   }

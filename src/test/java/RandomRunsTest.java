@@ -3,10 +3,13 @@
  * and each exception must be the same. The runs are the same every time.
  */
 public final class RandomRunsTest {
-  private static final int RUNS = 400;
-  private static final int CALLS = 120;
+  private static final int RUNS = 600;
+
+  /** What an object answers later is free. */
+  private static final int CALLS = 512;
 
   private long seed;
+  private int calls;
   private int kind;
   private TwoWaySeats one;
   private Reference two;
@@ -28,6 +31,7 @@ public final class RandomRunsTest {
   private void run(int number) {
     seed = number * 1000003L;
     kind = below(6);
+    calls = 0;
     one = new TwoWaySeats();
     two = new Reference();
     told = new StringBuilder("run " + number + ":");
@@ -46,12 +50,16 @@ public final class RandomRunsTest {
       }
     }
     askAll();
-    for (int call = 0; call < CALLS && Check.isClean(); call++) {
+    for (int turn = 0; turn < CALLS && calls < CALLS && Check.isClean(); turn++) {
       anyCall();
     }
   }
 
   private void same(String call, Check.Call mine, Check.Call due) {
+    if (calls == CALLS) {
+      return;
+    }
+    calls++;
     told.append(" ").append(call);
     String got = Check.outcome(mine);
     String want = Check.outcome(due);
