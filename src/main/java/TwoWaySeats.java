@@ -414,15 +414,15 @@ public final class TwoWaySeats {
       System.arraycopy(shares, 0, room, 0, MOST);
       for (int d = 0; d < MOST; d++) {
         for (int seat = 0; seat < sizes[d]; seat++) {
-          if (!takeRoom(votes, table, d)) {
-            makeRoom(votes, table, d, 0);
+          if (!takeRoom(votes, table, room, d)) {
+            makeRoom(votes, table, room, d, 0);
           }
         }
       }
     }
 
     /** A seat more for the strongest list of the district whose party has room. */
-    private boolean takeRoom(int[] votes, int[] table, int district) {
+    private static boolean takeRoom(int[] votes, int[] table, int[] room, int district) {
       int best = -1;
       for (int p = 0; p < MOST; p++) {
         int list = district * MOST + p;
@@ -446,7 +446,8 @@ public final class TwoWaySeats {
      * A seat more for the district at a full party, where another district gives its seat up for
      * one at another party; the set of parties asked before grows, so the depth is MOST at most.
      */
-    private boolean makeRoom(int[] votes, int[] table, int district, int asked) {
+    private static boolean makeRoom(
+        int[] votes, int[] table, int[] room, int district, int asked) {
       for (int p = 0; p < MOST; p++) {
         if (votes[district * MOST + p] == 0 || isIn(asked, p)) {
           continue;
@@ -455,7 +456,8 @@ public final class TwoWaySeats {
           if (d == district || table[d * MOST + p] == 0) {
             continue;
           }
-          if (takeRoom(votes, table, d) || makeRoom(votes, table, d, asked | 1 << p)) {
+          if (takeRoom(votes, table, room, d)
+              || makeRoom(votes, table, room, d, asked | 1 << p)) {
             table[d * MOST + p]--;
             table[district * MOST + p]++;
             return true;
